@@ -7,6 +7,7 @@ public final class OwedTest {
         days();
         capsByWidth();
         oneWeek();
+        weeksEnd();
         fewestWeeks();
         earliestWeeks();
         fourWeeks();
@@ -97,6 +98,23 @@ public final class OwedTest {
         dueBest(y, "a week that ends on the last day", 0, 21);
     }
 
+    private static void weeksEnd() {
+        TapLedger x = new TapLedger();
+        x.price(2, 1, 300);
+        whole(x, 0, 0, 1);
+        whole(x, 6, 0, 1);
+        whole(x, 7, 0, 5);
+        dueBest(x, "the eighth day is of no matter to the width", 300 + 400, 0);
+        TapLedger y = new TapLedger();
+        y.price(2, 1, 300);
+        whole(y, 20, 0, 5);
+        whole(y, 26, 0, 1);
+        whole(y, 27, 0, 1);
+        dueBest(y, "none begins behind day 21", 400 + 300, 21);
+        whole(y, 21, 0, 5);
+        dueBest(y, "so none is of width 1", 400 + 400 + 400);
+    }
+
     private static void fewestWeeks() {
         TapLedger x = new TapLedger();
         x.price(2, 1, 200);
@@ -174,6 +192,12 @@ public final class OwedTest {
         check.due("by caps still", x.saved(1, 0), 2 * 300);
         check.due("by weeks", x.saved(1, 1), 300);
         check.due("another card", x.saved(0, 0) + x.saved(0, 1), 0);
+        TapLedger y = new TapLedger();
+        for (int i = 0; i < 4; i++) {
+            whole(y, 0, 100 * i, 1);
+            whole(y, 27, 100 * i, 1);
+        }
+        check.due("on the first day and the last", y.saved(1, 0), 2 * 300);
     }
 
     private static void woulds() {

@@ -10,6 +10,7 @@ public final class RidesTest {
         dayParts();
         journeysJoin();
         journeysPart();
+        tapsThatWentLeaveNothing();
         threeAtMost();
         widths();
         busy();
@@ -153,6 +154,29 @@ public final class RidesTest {
         check.due("though it is mended", z.ride(0, 2, 3), 0);
         z.tap(0, 0, 125, 0, 1);
         check.due("a whole one joins", z.ride(0, 2, 4), 0);
+        TapLedger w = new TapLedger();
+        whole(w, 0, 100, 0, 110, 1);
+        w.tap(0, 0, 115, 1, 1);
+        whole(w, 0, 120, 1, 130, 3);
+        check.due("mended, from 0 to 1", w.ride(0, 1, 0), 0);
+        check.due("none joins a mended one", w.ride(0, 2, 4), 2);
+    }
+
+    private static void tapsThatWentLeaveNothing() {
+        TapLedger x = new TapLedger();
+        whole(x, 3, 100, 0, 110, 1);
+        whole(x, 3, 120, 1, 130, 2);
+        x.untap(0, 3, 130);
+        dueRide(x, 1, 1, NONE, 1, 1, 1);
+        x.untap(0, 3, 120);
+        x.untap(0, 3, 110);
+        dueRide(x, 0, 0, NONE, 1, 1, 0);
+        check.due("one ride", x.ride(0, -1, 0), 1);
+        x.untap(0, 3, 100);
+        check.due("no ride", x.ride(0, -1, 0), 0);
+        check.due("no journey", x.journey(0, -1, 0), 0);
+        check.due("no sum", x.day(0, 3, 0), 0);
+        check.due("no width", x.day(0, 3, 1), 0);
     }
 
     private static void threeAtMost() {
