@@ -11,7 +11,8 @@ public final class FaceTest {
     private static final Check check = new Check();
 
     public static void main(String[] args) {
-        check.holds("the class is public and final", TapLedger.class.getModifiers() == (Modifier.PUBLIC | Modifier.FINAL));
+        check.holds("the class is public and final",
+            TapLedger.class.getModifiers() == (Modifier.PUBLIC | Modifier.FINAL));
         constants();
         constructors();
         methods();

@@ -51,7 +51,7 @@ public final class RandomTest {
     }
 
     private int aMinute() {
-        return odd(random.nextInt(3) == 0 ? random.nextInt(1440) : Math.min(1439, (380 + gap * random.nextInt(20)) % 1440));
+        return odd(random.nextInt(3) == 0 ? random.nextInt(1440) : (380 + gap * random.nextInt(20)) % 1440);
     }
 
     private void due(String call, long got, long want) {
@@ -107,7 +107,7 @@ public final class RandomTest {
         int ten = odd(random.nextBoolean() ? random.nextInt(2) : 10 + random.nextInt(4));
         switch (random.nextInt(7)) {
             case 0: due("told", x.told(card, i, four), m.told(card, i, four)); break;
-            case 1: due("ride(" + card + ", " + i + ", " + five + ")", x.ride(card, i, five), m.ride(card, i, five)); break;
+            case 1: due("ride " + i + ", " + five, x.ride(card, i, five), m.ride(card, i, five)); break;
             case 2: due("journey", x.journey(card, i, five), m.journey(card, i, five)); break;
             case 3: due("day", x.day(card, day, four), m.day(card, day, four)); break;
             case 4: due("best", x.best(card, ten), m.best(card, ten)); break;
