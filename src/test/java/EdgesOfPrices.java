@@ -18,6 +18,7 @@ final class EdgesOfPrices {
         pricesAtFirst();
         pricesAtFirstInUse();
         objectsAreApart();
+        objectsLiveSideBySide();
         lastOfTheCalls();
         zoneOfWhichStation();
         zoneFromOneToFive();
@@ -113,6 +114,21 @@ final class EdgesOfPrices {
         s.anew().due(0, "count", 0).due(0, "count", 5).due(0, "count", 10).due(0, "count", 8);
         s.due(1, "pass", 0, 0).due(STATE, "restore", 0).due(STATE, "restore", 1).due(1, "count", 20);
         s.due(200, "price", 0, 1, 7).due(50, "price", 3, 1, 7).due(30, "price", 4, 1, 7);
+    }
+
+    /** One is made and used while the other is in use: neither sees anything of the other. */
+    private void objectsLiveSideBySide() {
+        Sentence s = book.sentence(1, "No TAP; nobody is barred");
+        s.did("tap", 0, 0, 0, 0, 0).did("bar", 0, 1).did("hear", 0).did("zone", 0, 5).did("price", 0, 5, 7);
+        s.did("image", 0);
+        Sentence other = book.sentence(1, "no IMAGE is kept");
+        other.due(0, "count", 0).due(0, "count", 4).due(STATE, "restore", 0).did("image", 1).did("tap", 0, 1, 1, 1, 1);
+        other.did("bar", 1, 1).did("hear", 1).did("zone", 1, 4).did("price", 3, 0, 9).due(400, "best", 0, 0);
+        s.due(1, "count", 8).due(STATE, "restore", 1).dueTap(0, 0, 0, 0, 0, 0).due(1, "count", 0).due(1, "count", 5);
+        s.due(0, "pass", 0, 0).due(0, "count", 11).due(5, "count", 20).due(2, "count", 21).due(7, "best", 0, 0);
+        s.due(50, "price", 3, 0, 0).due(1, "restore", 0);
+        other.due(2, "count", 8).dueTap(0, 0, 1, 1, 1, 1).due(2, "count", 5).due(1, "count", 20).due(4, "count", 21);
+        other.due(400, "price", 0, 5, 0).due(9, "price", 3, 0, 0).due(1, "restore", 1).due(0, "count", 0);
     }
 
     private void lastOfTheCalls() {
